@@ -124,8 +124,7 @@ public final class FlatPlan {
             return FULL;
         }
         history.keep(plan.now);
-        int ad = ads.add(size, group, price, ready);
-        return ad;
+        return ads.add(size, group, price, ready);
     }
 
     public boolean setAd(int ad, boolean color, int side)
@@ -1049,12 +1048,11 @@ public final class FlatPlan {
 
         /** The form of a page; NONE for 0, the page of what is not placed. */
         int formAt(int page) {
-            return hasPage(page) ? formOf[page] : NONE;
+            return page >= 1 && page <= pages ? formOf[page] : NONE;
         }
 
         boolean isPrinted(int page) {
-            int form = formAt(page);
-            return form != NONE && now.forms.printed[form] == 1;
+            return page >= 1 && page <= pages && now.forms.printed[formOf[page]] == 1;
         }
 
         boolean isLate(int ready) {
@@ -1072,8 +1070,7 @@ public final class FlatPlan {
         }
 
         private boolean lacksColor(int color, int page) {
-            int form = formAt(page);
-            return color == 1 && form != NONE && now.forms.color[form] == 0;
+            return color == 1 && page >= 1 && page <= pages && now.forms.color[formOf[page]] == 0;
         }
 
         int adReason(int ad, int page) {

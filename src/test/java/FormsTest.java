@@ -170,6 +170,8 @@ public final class FormsTest {
         check.due("pass(9)", 2, () -> plan.pass(9));
         check.due("standby(0, 1)", 8, () -> plan.standby(0, 1));
         check.due("lost()", 3, () -> plan.lost());
+        FlatPlan all = check.loaded("plan 4 4;close 0 2;close 1 2;close 2 2;close 3 2;close 4 2;close 5 2;close 6 2;close 7 2;");
+        check.due("pass(2) for eight forms", 8, () -> all.pass(2));
         // The earlier closing time comes first.
         FlatPlan other = check.loaded("plan 1 8;close 1 2;close 0 3;ad 1 0 0 0 1 9;ad 1 0 0 0 2 9;standby 1;put 0 2;put 1 8;");
         check.due("pass(9)", 2, () -> other.pass(9));

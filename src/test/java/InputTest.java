@@ -12,8 +12,10 @@ public final class InputTest {
         limitErrors();
         placeErrors();
         firstErrorCounts();
+        bytesBehindTheTextDoNotCount();
         failedLoadChangesNothing();
         goodLoadReplacesAll();
+        loadsFollowEachOther();
         check.end();
     }
 
@@ -113,6 +115,17 @@ public final class InputTest {
         bad("1;", 1, 0);
         bad("colour 0;", 1, 0);
         bad("colo 0;", 1, 0);
+        bad("colorz 0;", 1, 0);
+        bad("xolor 0;", 1, 0);
+        bad("planx 1 4;", 1, 0);
+        bad("ads 1 0 0 0 1 0;", 1, 0);
+        bad("xd 1 0 0 0 1 0;", 1, 0);
+        bad("storys 1 0 0 0;", 1, 0);
+        bad("standbys 1;", 1, 0);
+        bad("abcdefgh 1;", 1, 0);
+        bad("closed 0 1;", 1, 0);
+        bad("ad 1 0 0 0 1 0;puts 0 1;", 1, 15);
+        bad("story 1 0 0 0;lays 0 1;", 1, 14);
         bad("Color 0;", 1, 0);
         bad("color\t0;", 1, 5);
         bad("color 0\r;", 1, 7);
@@ -208,6 +221,24 @@ public final class InputTest {
         bad("ad 1 0 0 0 1 0;put 0 1;put 0 1;color 9;", 4, 29);
     }
 
+    private static void cut(String text, int length, int position) {
+        FlatPlan plan = new FlatPlan();
+        Check.append(plan, text);
+        plan.truncateInput(length);
+        check.due("load of " + length + " bytes of " + text, -3, () -> plan.load());
+        check.due("errorCode of it", 1, () -> plan.errorCode());
+        check.due("errorPosition of it", position, () -> plan.errorPosition());
+    }
+
+    private static void bytesBehindTheTextDoNotCount() {
+        cut("color 01;", 7, 7);
+        cut("color 0 ;", 7, 7);
+        cut("color 0;", 7, 7);
+        cut("standbyz 1;", 7, 7);
+        cut("colo", 4, 0);
+        cut("color", 4, 0);
+    }
+
     private static void failedLoadChangesNothing() {
         FlatPlan plan = check.loaded("plan 2 8;ad 1 1 0 0 7 0;put 0 3;");
         plan.setPrice(0, 9);
@@ -249,7 +280,38 @@ public final class InputTest {
             int one = what;
             check.due("count(" + one + ") after load", 0, () -> plan.count(one));
         }
+        check.due("page(1, 4) after load", 0, () -> plan.page(1, 4));
+        check.due("page(1, 6) after load", 0, () -> plan.page(1, 6));
+        check.due("adOn(1, 0) after load", -1, () -> plan.adOn(1, 0));
+        check.due("fill() after load", 0.0, () -> plan.fill());
         check.due("form(0, 2) after load", -1, () -> plan.form(0, 2));
         check.index("form(2, 0) after load", () -> plan.form(2, 0));
+    }
+
+    private static void loadsFollowEachOther() {
+        FlatPlan plan = new FlatPlan();
+        String text = "color 0;close 1 7;ad 1 3 1 2 5 9;story 2 0 1 5;standby 2;put 0 1;lay 0 2;";
+        for (int i = 0; i < 3; i++) {
+            Check.append(plan, text);
+            check.due("load() again", 7, () -> plan.load());
+            check.due("errorCode()", 0, () -> plan.errorCode());
+            check.due("errorPosition()", -1, () -> plan.errorPosition());
+            check.due("ad(0, 6)", 1, () -> plan.ad(0, 6));
+            Check.append(plan, text + "put 0 1;");
+            check.due("load() with an error", -3, () -> plan.load());
+            check.due("errorCode()", 4, () -> plan.errorCode());
+            check.due("errorPosition()", 79, () -> plan.errorPosition());
+        }
+        Check.append(plan, "");
+        check.due("load() of nothing", 0, () -> plan.load());
+        check.due("addAd", 0, () -> plan.addAd(1, 2, 3, 4));
+        int[] due = {1, 2, 0, 0, 3, 4, -1, 1};
+        for (int what = 0; what < due.length; what++) {
+            int one = what;
+            check.due("ad(0, " + one + ")", due[one], () -> plan.ad(0, one));
+        }
+        check.due("reason(0, 1)", 0, () -> plan.reason(0, 1));
+        check.due("form(0, 0)", 0, () -> plan.form(0, 0));
+        check.due("form(1, 2)", -1, () -> plan.form(1, 2));
     }
 }

@@ -204,6 +204,7 @@ public final class ItemsTest {
             int one = i;
             check.due("pageOf(2, " + i + ")", pages[i], () -> plan.pageOf(2, one));
             check.due("pageOf(1, " + i + ")", inner[i], () -> plan.pageOf(1, one));
+            check.due("pageOf(0, " + i + ")", pages[i] < 0 ? -1 : pages[i] - 8, () -> plan.pageOf(0, one));
         }
         for (int far : FAR) {
             check.due("pageOf(2, " + far + ")", -1, () -> plan.pageOf(2, far));

@@ -83,6 +83,9 @@ public final class SearchTest {
         check.due("story(0, 4) stays", 2, () -> plan.story(0, 4));
         check.due("story(2, 4)", 6, () -> plan.story(2, 4));
         check.due("story(1, 4)", 3, () -> plan.story(1, 4));
+        FlatPlan last = check.loaded("plan 1 4;story 3 0 0 0;story 1 0 0 0;lay 0 1;");
+        check.due("layStories() on the last page", 1, () -> last.layStories());
+        check.due("story(1, 4)", 4, () -> last.story(1, 4));
     }
 
     private static void choices() {
@@ -185,6 +188,14 @@ public final class SearchTest {
         FlatPlan here = check.loaded("plan 1 4;ad 2 3 0 0 1 0;ad 2 3 0 0 9 0;ad 2 0 0 0 2 0;put 1 2;put 2 2;");
         evictionIs(here, 0, 2, 9);
         evictionIs(here, 0, 3, 9);
+        // The first ad may be the one that goes; one that is not placed is not on page 1.
+        evictionIs(here, 0, 1, 0);
+        FlatPlan first = check.loaded("plan 1 4;ad 4 3 0 0 9 0;ad 2 3 0 0 1 0;put 0 2;");
+        evictionIs(first, 1, 2, 9);
+        evictionIs(first, 1, 3, 9);
+        evictionIs(first, 1, 1, 0);
+        FlatPlan alone = check.loaded("plan 1 4;ad 4 3 0 0 9 0;ad 2 3 0 0 1 0;put 0 1;");
+        evictionIs(alone, 1, 1, 9);
     }
 
     private static void cheapestPage() {
@@ -225,6 +236,14 @@ public final class SearchTest {
         FlatPlan sides = check.loaded("plan 1 4;color 0;ad 4 0 0 0 1 0;ad 4 0 1 0 1 0;ad 4 0 0 1 1 0;ad 4 0 0 2 1 0;"
                 + "ad 4 0 1 2 1 0;");
         check.due("matching()", 4, () -> sides.matching());
+        // The first ad makes way for the second one, and there is no way for the third.
+        FlatPlan full = check.loaded("plan 1 4;color 0;ad 4 0 0 0 1 0;ad 4 0 1 2 1 0;ad 4 0 1 2 1 0;");
+        check.due("matching()", 2, () -> full.matching());
+        // Two ads make way, one for the other: 0 to page 3, 1 from there to page 4.
+        FlatPlan chain = check.loaded("plan 1 4;color 0;ad 4 0 0 2 1 0;ad 4 0 0 0 1 0;ad 4 0 1 2 1 0;ad 4 0 0 0 1 0;"
+                + "standby 1;");
+        chain.use(0, 2);
+        check.due("matching()", 3, () -> chain.matching());
         FlatPlan many = check.loaded("ad 4 0 0 0 1 0;".repeat(40));
         check.due("matching() of 40", 16, () -> many.matching());
         FlatPlan large = check.loaded("plan 4 16;" + "ad 4 9 0 1 1 0;".repeat(40));
@@ -247,6 +266,11 @@ public final class SearchTest {
         check.due("bestColor(8)", 0, () -> plan.bestColor(8));
         FlatPlan all = check.loaded("plan 4 4;");
         check.due("bestColor(8)", 255, () -> all.bestColor(8));
+        FlatPlan none = check.loaded("plan 1 4;color 0;");
+        none.print(1);
+        check.due("bestColor(1) of none", 0, () -> none.bestColor(1));
+        none.print(0);
+        check.due("bestColor(1) of none", 0, () -> none.bestColor(1));
         // Full forms can be the set too.
         FlatPlan full = check.loaded("plan 1 4;story 4 0 0 0;lay 0 1;");
         check.due("bestColor(1) of full forms", 1, () -> full.bestColor(1));
@@ -302,6 +326,9 @@ public final class SearchTest {
         check.due("lastReady()", 0, () -> plan.lastReady());
         plan.print(2);
         check.due("lastReady() when all is printed", -1, () -> plan.lastReady());
+        FlatPlan stories = check.loaded("story 1 0 0 4;story 1 0 0 9;story 1 0 0 5;story 1 0 0 9;lay 0 1;lay 1 2;lay 2 3;"
+                + "lay 3 4;");
+        check.due("lastReady() of four stories", 101, () -> stories.lastReady());
     }
 
     private static void betterExchange() {
@@ -315,6 +342,11 @@ public final class SearchTest {
         // The ad with color stands on the same page as others; the first pair of several counts.
         FlatPlan first = check.loaded("plan 1 8;color 0;color 1;ad 1 0 1 0 1 0;ad 1 0 1 0 1 0;put 0 1;put 1 2;");
         check.due("betterExchange()", 103, () -> first.betterExchange());
+        FlatPlan near = check.loaded("plan 1 8;color 0;color 1;ad 1 0 1 0 1 0;ad 1 0 1 0 1 0;put 0 2;put 1 8;");
+        check.due("betterExchange() of neighbors", 102, () -> near.betterExchange());
+        FlatPlan behind = check.loaded("plan 1 4;color 0;color 1;ad 1 0 1 1 1 0;story 1 1 0 0;story 1 0 0 0;put 0 2;lay 0 1;"
+                + "lay 1 3;");
+        check.due("betterExchange() with the last page", 204, () -> behind.betterExchange());
     }
 
     private static void betterExchangeThatMayNotBe() {

@@ -34,6 +34,10 @@ public final class SumsTest {
         check.due("nearRivals() of one placed", 0, () -> free.nearRivals());
         free.put(1, 1);
         check.due("nearRivals() of pages 1 and 2", 1, () -> free.nearRivals());
+        free.exchange(1, 2);
+        check.due("nearRivals() the other way", 1, () -> free.nearRivals());
+        free.take(0);
+        check.due("nearRivals() of the other one", 0, () -> free.nearRivals());
     }
 
     private static void groups() {
@@ -125,6 +129,8 @@ public final class SumsTest {
         plan.pass(3);
         check.due("endangered() of none", 0, () -> plan.endangered());
         check.due("lost()", 10, () -> plan.lost());
+        FlatPlan one = check.loaded("close 0 5;ad 1 0 0 0 3 6;put 0 1;");
+        check.due("endangered() of the first ad", 3, () -> one.endangered());
     }
 
     private static void fill() {

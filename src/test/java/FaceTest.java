@@ -39,6 +39,10 @@ public final class FaceTest {
             }
         }
         for (Class<?> inside : FlatPlan.class.getDeclaredClasses()) {
+            for (Method method : inside.getDeclaredMethods()) {
+                check.same(inside + "." + method.getName() + " bears a public name",
+                        publicNames.contains(method.getName()), false);
+            }
             check.same(inside + " is static", Modifier.isStatic(inside.getModifiers()), true);
             check.same(inside + " is seen", Modifier.isPublic(inside.getModifiers()), false);
         }

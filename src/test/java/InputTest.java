@@ -304,6 +304,9 @@ public final class InputTest {
         }
         Check.append(plan, "");
         check.due("load() of nothing", 0, () -> plan.load());
+        check.due("count(7)", 0, () -> plan.count(7));
+        check.due("count(8)", 0, () -> plan.count(8));
+        check.due("page(1, 4)", 0, () -> plan.page(1, 4));
         check.due("addAd", 0, () -> plan.addAd(1, 2, 3, 4));
         int[] due = {1, 2, 0, 0, 3, 4, -1, 1};
         for (int what = 0; what < due.length; what++) {

@@ -58,6 +58,14 @@ public final class LimitsTest {
         check.due("story(9, 4)", 64, () -> plan.story(9, 4));
         check.due("lateItem(41)", 109, () -> plan.lateItem(41));
         check.due("endangered()", plan.revenue(), () -> plan.endangered());
+        check.due("exchange(1, 2)", 0, () -> plan.exchange(1, 2));
+        check.due("exchange(1, 21)", 6, () -> plan.exchange(1, 21));
+        check.due("clear(1)", 1, () -> plan.clear(1));
+        check.due("use(7, 1)", 0, () -> plan.use(7, 1));
+        check.due("clear(1) of a standby", 1, () -> plan.clear(1));
+        for (int i = 0; i < 4; i++) {
+            plan.undo();
+        }
         check.due("pass(500)", 8, () -> plan.pass(500));
         check.due("count(7)", 0, () -> plan.count(7));
         check.due("count(8)", 0, () -> plan.count(8));

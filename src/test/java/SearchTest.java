@@ -196,6 +196,8 @@ public final class SearchTest {
         evictionIs(first, 1, 1, 0);
         FlatPlan alone = check.loaded("plan 1 4;ad 4 3 0 0 9 0;ad 2 3 0 0 1 0;put 0 1;");
         evictionIs(alone, 1, 1, 9);
+        alone.take(0);
+        evictionIs(alone, 1, 1, 0);
     }
 
     private static void cheapestPage() {

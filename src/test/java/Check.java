@@ -5,6 +5,9 @@ final class Check {
     }
 
     private final String name;
+    private Document document;
+    private String sentence = "";
+    private int answersOfSentence;
     private int calls;
     private int wrong;
 
@@ -12,11 +15,33 @@ final class Check {
         this.name = name;
     }
 
+    /** Until the next one the answers are of this sentence, which must stand in this section of the document. */
+    void sentence(String section, String words) {
+        endOfSentence();
+        sentence = section + " \"" + words + "\": ";
+        same("standing in the document", document().quote(section, words), true);
+        answersOfSentence = 0;
+    }
+
+    private void endOfSentence() {
+        if (!sentence.isEmpty()) {
+            same("being tested", answersOfSentence > 0, true);
+        }
+    }
+
+    Document document() {
+        if (document == null) {
+            document = new Document();
+        }
+        return document;
+    }
+
     void same(String call, Object got, Object due) {
         calls++;
+        answersOfSentence++;
         if (!got.equals(due)) {
             wrong++;
-            System.out.println(call + " answered " + got + ", due is " + due);
+            System.out.println(sentence + call + " answered " + got + ", due is " + due);
         }
     }
 
@@ -78,7 +103,12 @@ final class Check {
         return text.toString();
     }
 
+    int wrong() {
+        return wrong;
+    }
+
     void end() {
+        endOfSentence();
         System.out.println(name + ": " + calls + " answers, " + wrong + " wrong");
         if (wrong != 0 || calls == 0) {
             System.exit(1);

@@ -13,42 +13,6 @@ public final class UndoTest {
         check.end();
     }
 
-    /** All that the class tells of the plan itself. */
-    private static List<Object> all(FlatPlan plan) {
-        List<Object> all = new ArrayList<>();
-        for (int what = 0; what <= 11; what++) {
-            all.add(plan.count(what));
-        }
-        for (int i = 0; i < plan.count(3); i++) {
-            for (int what = 0; what <= 7; what++) {
-                all.add(plan.ad(i, what));
-            }
-        }
-        for (int i = 0; i < plan.count(4); i++) {
-            for (int what = 0; what <= 5; what++) {
-                all.add(plan.story(i, what));
-            }
-        }
-        for (int i = 0; i < plan.count(5); i++) {
-            all.add(plan.standby(i, 1));
-        }
-        for (int i = 0; i < plan.count(2); i++) {
-            for (int what = 0; what <= 7; what++) {
-                all.add(plan.form(i, what));
-            }
-        }
-        for (int page = 1; page <= plan.count(0); page++) {
-            for (int what = 0; what <= 6; what++) {
-                all.add(plan.page(page, what));
-            }
-        }
-        for (int group = 0; group <= 9; group++) {
-            all.add(plan.spreadsOf(group));
-        }
-        all.add(plan.lost());
-        return all;
-    }
-
     private static FlatPlan sample() {
         return check.loaded("plan 2 4;color 0;close 0 3;close 3 9;ad 1 1 1 0 5 9;ad 2 2 0 0 6 0;ad 4 3 0 0 7 0;"
                 + "story 2 0 0 9;story 1 0 0 0;standby 1;standby 2;put 0 1;put 1 4;lay 0 5;");
@@ -64,23 +28,23 @@ public final class UndoTest {
                 () -> plan.exchange(8, 8), () -> plan.pass(6));
         List<List<Object>> states = new ArrayList<>();
         for (int i = 0; i < changes.size(); i++) {
-            states.add(all(plan));
+            states.add(Snapshot.ofPlan(plan));
             Object answer = Check.answerOf(changes.get(i));
             check.same("change " + i + " is one", plan.undoCount() + " " + answer, i + 1 + " " + answer);
         }
         for (int i = changes.size() - 1; i >= 0; i--) {
             check.due("undo of change " + i, true, () -> plan.undo());
-            check.same("the state before change " + i, all(plan), states.get(i));
+            check.same("the state before change " + i, Snapshot.ofPlan(plan), states.get(i));
             check.due("undoCount()", i, () -> plan.undoCount());
         }
         check.due("undo of none", false, () -> plan.undo());
-        check.same("the first state", all(plan), all(sample()));
+        check.same("the first state", Snapshot.ofPlan(plan), Snapshot.ofPlan(sample()));
     }
 
     private static void noChanges() {
         FlatPlan plan = sample();
         plan.print(1);
-        List<Object> before = all(plan);
+        List<Object> before = Snapshot.ofPlan(plan);
         List<Check.Call> calls = List.of(() -> plan.addAd(3, 0, 1, 0), () -> plan.setAd(0, true, 0), () -> plan.setAd(2, true, 3),
                 () -> plan.setPrice(0, 0), () -> plan.put(2, 2), () -> plan.put(0, 0), () -> plan.lay(0, 4), () -> plan.take(2),
                 () -> plan.takeStory(1), () -> plan.use(0, 2), () -> plan.clear(8), () -> plan.exchange(1, 2),
@@ -91,7 +55,7 @@ public final class UndoTest {
                 () -> plan.describe(1), () -> plan.tightest(), () -> plan.lateItem(0), () -> plan.emptiest(0));
         for (int i = 0; i < calls.size(); i++) {
             Check.answerOf(calls.get(i));
-            check.same("the state after call " + i, all(plan), before);
+            check.same("the state after call " + i, Snapshot.ofPlan(plan), before);
             check.same("undoCount() after call " + i, plan.undoCount(), 1);
         }
     }

@@ -1,4 +1,3 @@
-import java.util.ArrayList;
 import java.util.List;
 import java.util.function.Function;
 import java.util.function.Supplier;
@@ -260,15 +259,14 @@ final class BoundsOfChanges extends Bounds {
         due("undo() of a new change", true, () -> plan.undo());
         told("Promise 59", "Undoes the latest change that was not undone.");
         FlatPlan two = made();
-        List<List<Object>> states = new ArrayList<>();
-        states.add(Snapshot.of(two));
+        List<Object> first = Snapshot.ofPlan(two);
         two.setPrice(0, 11);
-        states.add(Snapshot.of(two));
         two.put(2, 6);
         two.undo();
-        check.same("the plan after undo", Snapshot.of(two), states.get(1));
+        due("ad(2, 6) after undo", -1, () -> two.ad(2, 6));
+        due("ad(0, 4) after undo", 11, () -> two.ad(0, 4));
         two.undo();
-        check.same("the plan after the other undo", Snapshot.of(two), states.get(0));
+        check.same("the plan after the other undo", Snapshot.ofPlan(two), first);
         Check.append(two, "plan 1 4;");
         two.setPrice(0, 12);
         two.load();

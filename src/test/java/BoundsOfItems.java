@@ -229,9 +229,71 @@ final class BoundsOfItems extends Bounds {
         due("put(39, 64)", 0, () -> plan.put(39, 64));
         due("lay(9, 63)", 0, () -> plan.lay(9, 63));
         due("use(7, 62)", 0, () -> plan.use(7, 62));
+        lastItems();
+        fullPlan();
         bad(AD.repeat(41), 3, 600);
         bad("story 1 0 0 0;".repeat(11), 3, 140);
         bad("standby 1;".repeat(9), 3, 80);
+    }
+
+    /** The last ad, story, standby and form are loaded, changed and brought back whole. */
+    private void lastItems() {
+        StringBuilder text = new StringBuilder("plan 4 16;color 6;color 7;close 7 9;" + AD.repeat(39) + "ad 4 9 1 2 999 9999;");
+        text.append("story 1 0 0 0;".repeat(9)).append("story 8 1 2 9999;").append("standby 1;".repeat(7)).append("standby 4;");
+        FlatPlan plan = loaded(text.append("put 39 63;lay 9 55;").toString());
+        plan.use(7, 64);
+        for (int i = 0; i < 2; i++) {
+            inOrder("ad(39, what)", new int[] {4, 9, 1, 2, 999, 9999, 63, 1}, what -> plan.ad(39, what));
+            inOrder("story(9, what)", new int[] {8, 1, 2, 9999, 55, 1}, what -> plan.story(9, what));
+            inOrder("standby(7, what)", new int[] {4, 64}, what -> plan.standby(7, what));
+            inOrder("form(7, what)", new int[] {1, 0, 9, 8, 12, 1, 2, 1}, what -> plan.form(7, what));
+            plan.take(39);
+            plan.setAd(39, false, 0);
+            plan.setPrice(39, 1);
+            plan.takeStory(9);
+            plan.clear(64);
+            plan.setColor(7, false);
+            plan.setClosing(7, 5);
+            plan.print(7);
+            due("ad(39, 3)", 0, () -> plan.ad(39, 3));
+            due("standby(7, 1)", -1, () -> plan.standby(7, 1));
+            due("form(7, 1)", 1, () -> plan.form(7, 1));
+            while (plan.undoCount() > 1) {
+                plan.undo();
+            }
+        }
+    }
+
+    /** All that there can be at once: 40 ads on 10 pages, 10 stories, 8 standbys, 8 forms that close. */
+    private void fullPlan() {
+        StringBuilder text = new StringBuilder("plan 4 16;");
+        for (int form = 0; form < 8; form++) {
+            text.append("color ").append(form).append(";close ").append(form).append(" 5;");
+        }
+        text.append("ad 1 0 1 0 2 9;".repeat(39)).append("ad 1 9 1 0 2 9;").append("story 1 1 0 9;".repeat(10));
+        FlatPlan plan = loaded(text.append("standby 1;".repeat(8)).toString());
+        due("placeAds()", 40, () -> plan.placeAds());
+        due("layStories()", 10, () -> plan.layStories());
+        due("use(7, 64)", 0, () -> plan.use(7, 64));
+        due("revenue()", 80, () -> plan.revenue());
+        due("quarterPrice()", 2.0, () -> plan.quarterPrice());
+        due("nearRivals()", 0, () -> plan.nearRivals());
+        due("betterExchange()", -1, () -> plan.betterExchange());
+        due("endangered()", 80, () -> plan.endangered());
+        due("lastReady()", 0, () -> plan.lastReady());
+        due("lateItem(49)", 109, () -> plan.lateItem(49));
+        due("exchange(10, 64)", 0, () -> plan.exchange(10, 64));
+        due("ad(39, 6)", 64, () -> plan.ad(39, 6));
+        due("standby(7, 1)", 10, () -> plan.standby(7, 1));
+        due("exchange(64, 20) with a story", 3, () -> plan.exchange(64, 20));
+        due("clear(64)", 4, () -> plan.clear(64));
+        due("undo()", true, () -> plan.undo());
+        due("eviction(0, 64)", 2, () -> plan.eviction(0, 64));
+        due("pass(5)", 8, () -> plan.pass(5));
+        due("lost()", 80, () -> plan.lost());
+        due("count(7)", 0, () -> plan.count(7));
+        due("count(8)", 0, () -> plan.count(8));
+        inOrder("standby(k, 1)", new int[] {1, 1, 1, 1, 4, 4, 4, 10}, k -> plan.standby(k, 1));
     }
 
     private void propertiesOfItems() {
@@ -337,6 +399,12 @@ final class BoundsOfItems extends Bounds {
         again.undo();
         due("addAd in the place of another one", 0, () -> again.addAd(2, 3, 4, 5));
         inOrder("ad(0, what)", new int[] {2, 3, 0, 0, 4, 5, -1, 1, -1}, what -> again.ad(0, what));
+        // Nor does anything stay of an ad of an earlier text.
+        FlatPlan later = loaded("plan 1 4;color 0;ad 4 9 1 1 999 9999;put 0 4;");
+        Check.append(later, "plan 1 4;");
+        later.load();
+        due("addAd behind a load", 0, () -> later.addAd(1, 0, 1, 0));
+        inOrder("ad(0, what)", new int[] {1, 0, 0, 0, 1, 0, -1, 0, -1}, what -> later.ad(0, what));
         int[][] taken = {{1, 0, 1, 0}, {2, 0, 1, 0}, {4, 0, 1, 0}, {1, 9, 1, 0}, {1, 0, 999, 0}, {1, 0, 1, 9999}};
         int[][] wrong = {{0, 0, 1, 0}, {3, 0, 1, 0}, {5, 0, 1, 0}, {8, 0, 1, 0}, {-1, 0, 1, 0}, {-4, 0, 1, 0}, {LEAST, 0, 1, 0},
             {GREATEST, 0, 1, 0}, {1, -1, 1, 0}, {1, 10, 1, 0}, {1, LEAST, 1, 0}, {1, GREATEST, 1, 0}, {1, 0, 0, 0},

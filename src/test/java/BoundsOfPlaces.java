@@ -144,6 +144,12 @@ final class BoundsOfPlaces extends Bounds {
         reasons(plan, 5, 0, 0, 0, 0, 0, 0, 0, 6, 1);
         plan.put(4, 7);
         reasons(plan, 5, 0, 0, 0, 0, 0, 6, 6, 0, 1);
+        // The same for one that stands elsewhere
+        plan.put(5, 1);
+        reasons(plan, 5, 0, 0, 0, 0, 0, 6, 6, 0, 1);
+        plan.put(5, 2);
+        reasons(plan, 5, 0, 0, 0, 0, 0, 6, 6, 0, 1);
+        reasons(plan, 4, 0, 6, 6, 0, 0, 0, 0, 0, 1);
         plan.take(4);
         reasons(plan, 5, 0, 0, 0, 0, 0, 0, 0, 0, 1);
     }
@@ -545,6 +551,18 @@ final class BoundsOfPlaces extends Bounds {
         told("Promise 25", "Removes all ads and standbys from a page, a change.");
         changed(made, "clear(1) of ads", 4, p -> p.clear(1));
         changed(made, "clear(2) of both", 3, p -> p.clear(2));
+        FlatPlan others = made.get();
+        others.clear(1);
+        inOrder("ad(k, 6) after clear(1)", new int[] {-1, -1, -1, -1, 2}, k -> others.ad(k, 6));
+        inOrder("standby(k, 1) after clear(1)", new int[] {2, -1, 2}, k -> others.standby(k, 1));
+        others.undo();
+        others.clear(2);
+        inOrder("ad(k, 6) after clear(2)", new int[] {1, 1, 1, 1, -1}, k -> others.ad(k, 6));
+        inOrder("standby(k, 1) after clear(2)", new int[] {-1, -1, -1}, k -> others.standby(k, 1));
+        others.use(1, 4);
+        others.put(4, 2);
+        others.clear(2);
+        due("standby(1, 1) of another page", 4, () -> others.standby(1, 1));
         told("Promise 25", "Returns how many were removed; REFUSED if its form is printed, or if there are none.");
         FlatPlan plan = made.get();
         due("clear(2)", 3, () -> plan.clear(2));
@@ -666,6 +684,8 @@ final class BoundsOfPlaces extends Bounds {
         refused(() -> loaded(text), "exchange(5, 1)", 6, p -> p.exchange(5, 1));
         refused(() -> loaded(text), "exchange(8, 3)", 6, p -> p.exchange(8, 3));
         refused(() -> loaded(text), "exchange(3, 8)", 6, p -> p.exchange(3, 8));
+        refused(() -> loaded("plan 1 8;ad 1 5 0 0 1 0;ad 1 5 0 0 1 0;put 0 2;put 1 5;"), "exchange(5, 3)", 6, p -> p.exchange(5, 3));
+        refused(() -> loaded("plan 1 8;ad 1 5 0 0 1 0;ad 1 5 0 0 1 0;put 1 2;put 0 5;"), "exchange(5, 3)", 6, p -> p.exchange(5, 3));
         changed(() -> loaded(text), "exchange(1, 4) of two rivals", 0, p -> p.exchange(1, 4));
         changed(() -> loaded(text), "exchange(8, 2) of two rivals", 0, p -> p.exchange(8, 2));
         changed(() -> loaded(text), "exchange(1, 2) of neighboring spreads", 0, p -> p.exchange(1, 2));

@@ -1,3 +1,5 @@
+import java.util.ArrayList;
+import java.util.List;
 import java.util.function.Supplier;
 
 /** Boundary cases of promises 32 to 41 and 49 to 53. */
@@ -54,7 +56,7 @@ final class BoundsOfSearches extends Bounds {
         changed(() -> loaded("plan 1 4;" + AD + "put 0 4;"), "placeAds(), all placed", 0, p -> p.placeAds());
         changed(() -> loaded("plan 1 4;story 4 0 0 0;" + AD + "lay 0 1;"), "placeAds(), no place", 0, p -> p.placeAds());
         changed(() -> loaded("plan 1 4;" + WHOLE.repeat(5)), "placeAds(), four of five", 4, p -> p.placeAds());
-        changed(() -> loaded("plan 4 16;" + AD.repeat(40)), "placeAds() of 40", 40, p -> p.placeAds());
+        changed(() -> loaded("plan 1 16;" + AD.repeat(40)), "placeAds() of 40", 40, p -> p.placeAds());
         told("Promise 32", "each one is put on the first page with the reason 0.");
         // Form 0 is printed, page 2 full, color only on 5 and 8.
         FlatPlan plan = loaded("plan 2 4;color 2;ad 2 1 1 1 5 0;ad 2 1 0 0 1 0;ad 2 0 0 1 4 0;ad 4 0 0 2 3 0;" + WHOLE
@@ -243,6 +245,16 @@ final class BoundsOfSearches extends Bounds {
         evictionIs(plan, 2, 0, 3, -1, -1, 0, -1, 0, 0);
         plan.print(1);
         evictionIs(plan, 2, 0, -1, -1, -1, 0, -1, -1, 0);
+        // Whatever would have to go besides
+        FlatPlan besides = loaded("plan 2 4;ad 1 1 0 0 8 0;ad 1 1 0 0 1 0;ad 4 0 0 0 5 0;ad 4 1 0 0 1 0;standby 1;put 0 4;put 2 5;");
+        due("eviction(1, 5)", 13, () -> besides.eviction(1, 5));
+        besides.print(0);
+        due("eviction(1, 5) beside a printed rival", -1, () -> besides.eviction(1, 5));
+        besides.undo();
+        besides.take(2);
+        besides.use(0, 5);
+        due("eviction(1, 5) beside a rival and a standby", 8, () -> besides.eviction(1, 5));
+        due("eviction(3, 5) beside a rival and a standby", -1, () -> besides.eviction(3, 5));
         // A rival on the other page of the spread, 4 and 5 of two signatures
         FlatPlan rival = loaded("plan 2 4;ad 1 1 0 0 1 0;ad 1 1 0 0 8 0;put 1 4;");
         evictionIs(rival, 0, 0, 0, 0, 8, 8, 0, 0, 0);
@@ -333,6 +345,8 @@ final class BoundsOfSearches extends Bounds {
         due("matching() of 5 on 4 pages", 4, () -> loaded("plan 1 4;" + WHOLE.repeat(5)).matching());
         due("matching() of 40 on 64 pages", 40, () -> loaded("plan 4 16;" + WHOLE.repeat(40)).matching());
         due("matching() of 40 on 16 pages", 16, () -> loaded(WHOLE.repeat(40)).matching());
+        due("matching() of 40 on 32 left pages of 64", 32, () -> loaded("plan 4 16;" + "ad 4 0 0 1 1 0;".repeat(40)).matching());
+        due("matching() of 40 on 32 right pages of 64", 32, () -> loaded("plan 4 16;" + "ad 4 0 0 2 1 0;".repeat(40)).matching());
         FlatPlan plan = loaded("plan 1 4;" + WHOLE.repeat(5) + AD + STORY + "standby 1;");
         plan.put(0, 1);
         due("matching() of four on three", 3, () -> plan.matching());
@@ -365,9 +379,49 @@ final class BoundsOfSearches extends Bounds {
             plan.use(1, 4);
             due("matching() of three on two", 2, () -> plan.matching());
         }
+        // What was matched once does not matter the next time.
+        FlatPlan again = loaded("plan 1 4;color 0;" + ads[0] + ads[1] + "ad 4 0 1 1 1 0;put 0 4;");
+        due("matching() of one on three", 1, () -> again.matching());
+        again.take(0);
+        again.setAd(2, true, 2);
+        due("matching() of three on four", 3, () -> again.matching());
+        // Color is on 39 pages up to 48; the 39th ad has the last of them and makes way for the 40th one.
+        FlatPlan most = loaded("plan 4 16;color 0;color 1;color 2;color 3;color 4;" + "ad 4 0 1 0 1 0;".repeat(38)
+                + "ad 4 0 0 0 1 0;ad 4 0 1 0 1 0;standby 4;");
+        most.use(0, 1);
+        most.print(5);
+        due("matching() of 40, the last one through all others", 40, () -> most.matching());
+        String any = "ad 4 0 0 0 1 0;";
+        String right = "ad 4 0 0 2 1 0;";
+        String first = "ad 4 0 1 2 1 0;";
+        int[] all = {4, 3, 3};
+        matchingInAnyOrder(all, any, "ad 4 0 1 0 1 0;", "ad 4 0 0 1 1 0;", right, first);
+        matchingInAnyOrder(all, any, any, right, first, "ad 4 0 1 0 1 0;");
+        matchingInAnyOrder(all, any, any, any, right, first);
+        matchingInAnyOrder(new int[] {3, 3, 2}, any, first, first, right, right);
+        matchingInAnyOrder(new int[] {2, 2, 1}, any, first, first, first, first);
         told("Promise 39", "no ad and no page in two of them.");
         due("matching() of two for page 1", 1, () -> loaded("plan 1 4;color 0;" + ads[2] + ads[2]).matching());
         due("matching() of one for 16 pages", 1, () -> loaded(ads[0]).matching());
+    }
+
+    /** Five ads in every order, for four pages, for 1, 3 and 4, and for 2, 3 and 4. */
+    private void matchingInAnyOrder(int[] due, String... kinds) {
+        for (int order = 0; order < 120; order++) {
+            List<String> left = new ArrayList<>(List.of(kinds));
+            StringBuilder text = new StringBuilder("plan 1 4;color 0;");
+            int rest = order;
+            for (int number = 5; number >= 1; number--) {
+                text.append(left.remove(rest % number));
+                rest /= number;
+            }
+            FlatPlan plan = loaded(text.append("standby 1;").toString());
+            due("matching() of " + text + " on four pages", due[0], () -> plan.matching());
+            plan.use(0, 2);
+            due("matching() of " + text + " on 1, 3 and 4", due[1], () -> plan.matching());
+            plan.use(0, 1);
+            due("matching() of " + text + " on 2, 3 and 4", due[2], () -> plan.matching());
+        }
     }
 
     private void bestColor() {
@@ -502,7 +556,19 @@ final class BoundsOfSearches extends Bounds {
         due("betterExchange() of 64 pages", 4963, () -> large.betterExchange());
         due("betterExchange() of 63 and 64", 6364, () -> loaded("plan 4 16;" + color + "ad 1 0 1 0 1 0;ad 1 0 1 0 1 0;story 8 0 0 0;"
                 + "story 5 0 0 0;put 0 62;put 1 64;lay 0 49;lay 1 57;").betterExchange());
+        due("betterExchange() of ads without color", -1,
+                () -> loaded("plan 2 4;" + colors + AD + AD + "put 0 1;put 1 3;").betterExchange());
+        FlatPlan twice = loaded("plan 2 4;" + colors + two + "put 0 1;put 1 3;");
+        due("betterExchange() of two forms", 102, () -> twice.betterExchange());
+        twice.take(0);
+        due("betterExchange() of the one that is left", -1, () -> twice.betterExchange());
         told("Promise 51", "so that the number of forms with an item with color becomes least.");
+        FlatPlan story = loaded("plan 2 4;" + colors + two + "story 1 1 0 0;put 0 1;lay 0 2;");
+        due("betterExchange() to the form of a story", 103, () -> story.betterExchange());
+        due("betterExchange() to the form of a story without color", -1,
+                () -> loaded("plan 2 4;" + colors + two + STORY + "put 0 1;lay 0 2;").betterExchange());
+        due("betterExchange() to the form of a long story", 105,
+                () -> loaded("plan 2 4;" + colors + two + "story 3 1 0 0;put 0 1;lay 0 6;").betterExchange());
         FlatPlan three = loaded("plan 2 4;" + colors + two + "story 1 1 0 0;story 1 0 0 0;put 0 1;put 1 4;lay 0 2;lay 1 3;");
         due("betterExchange(), two on a form and a story", -1, () -> three.betterExchange());
         three.take(1);

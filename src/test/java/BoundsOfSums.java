@@ -232,6 +232,14 @@ final class BoundsOfSums extends Bounds {
         plan.take(3);
         due("endangered() with one taken", 7, () -> plan.endangered());
         refused(made, "endangered()", 12, p -> p.endangered());
+        // Ready at 5, told at 7 to close at 3: it was not late then, and what is printed is in no danger.
+        FlatPlan told = loaded("plan 1 4;ad 1 0 0 0 9 5;ad 1 0 0 0 9 6;put 0 1;put 1 2;");
+        told.pass(7);
+        told.setClosing(0, 3);
+        due("lost()", 0, () -> told.lost());
+        due("endangered() on a printed form", 0, () -> told.endangered());
+        told.print(1);
+        due("endangered() when all is printed", 0, () -> told.endangered());
     }
 
     private void endangeredByTime() {

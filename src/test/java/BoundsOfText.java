@@ -29,6 +29,7 @@ final class BoundsOfText extends Bounds {
         putStatement();
         layStatement();
         loadReplacesAll();
+        nothingStays();
         firstError();
         positions();
         lowestCode();
@@ -110,6 +111,9 @@ final class BoundsOfText extends Bounds {
             for (String wrong : List.of(word + "a", word + "z", "a" + word, "z" + word, word + word, word.substring(1),
                     word.substring(0, word.length() - 1), word.toUpperCase(), word + "abcdefgh")) {
                 bad(before + with(tokens, 0, wrong), 1, at);
+            }
+            for (int i = 0; i < word.length(); i++) {
+                bad(before + with(tokens, 0, word.substring(0, i) + "x" + word.substring(i + 1)), 1, at);
             }
             // A sign beside the letters ends the word, so that the next token is the wrong one.
             for (String sign : List.of("`", "{", "A", "Z", "@", "[", "\u00e1")) {
@@ -340,7 +344,8 @@ final class BoundsOfText extends Bounds {
 
     private void loadReplacesAll() {
         told("INPUT", "A text without errors replaces everything; nothing can be undone then.");
-        for (String text : List.of("", " \n", "plan 1 16;", "plan 2 4;" + AD + "standby 1;", "plan 4 4;close 1 1;")) {
+        for (String text : List.of("", " \n", "plan 1 16;", "plan 2 4;" + AD + "standby 1;", "plan 4 4;close 1 1;",
+                "plan 4 4;" + AD + AD + AD + STORY + "standby 1;standby 2;")) {
             FlatPlan plan = used();
             due("undoCount() before", 4, () -> plan.undoCount());
             Check.append(plan, text);
@@ -350,6 +355,23 @@ final class BoundsOfText extends Bounds {
             due("undo()", false, () -> plan.undo());
             due("lost()", 0, () -> plan.lost());
             due("count(6)", 0, () -> plan.count(6));
+        }
+    }
+
+    /** What stood in a longer text is seen nowhere in a shorter one. */
+    private void nothingStays() {
+        told("INPUT", "A text without errors replaces everything;");
+        String longer = "plan 2 8;color 0;color 1;color 2;color 3;close 0 3;close 1 3;close 2 3;close 3 3;"
+                + "ad 1 1 1 1 1 9;ad 1 2 1 1 2 9;ad 1 3 1 0 3 9;ad 1 1 1 0 4 9;ad 2 2 1 0 5 9;ad 1 3 1 0 6 9;story 2 1 0 9;story 1 1 0 9;"
+                + "story 1 1 0 9;standby 1;standby 1;standby 2;put 0 2;put 1 2;put 2 2;put 3 4;put 4 4;put 5 4;lay 0 6;lay 1 8;lay 2 9;";
+        String[] shorter = {"", "plan 1 8;ad 1 1 0 0 7 0;put 0 2;", "plan 1 8;color 0;ad 1 1 0 0 7 0;ad 4 0 0 0 9 0;put 0 6;put 1 4;",
+            "plan 1 8;close 0 5;ad 1 1 0 0 7 0;ad 1 2 0 0 9 9;ad 1 3 0 0 9 0;story 1 0 0 0;standby 1;put 1 4;",
+            "plan 2 8;color 1;color 2;color 3;ad 1 1 0 0 7 9;ad 1 2 0 0 9 0;ad 1 3 0 0 9 0;story 1 0 0 0;story 1 0 0 0;"};
+        for (String text : shorter) {
+            FlatPlan plan = loaded(longer);
+            Check.append(plan, text);
+            plan.load();
+            check.same("the answers of [" + text + "] after a longer text", Snapshot.answers(plan), Snapshot.answers(loaded(text)));
         }
     }
 
@@ -549,6 +571,17 @@ final class BoundsOfText extends Bounds {
         on.truncateInput(8);
         due("appendInput behind the first 8", 28, () -> on.appendInput(0x2020636f, 0x6c6f7220, 0x313b2020, 0x20202020, 0x20202020));
         due("load() of both", 2, () -> on.load());
+        // What stood behind the first bytes belongs to no token.
+        String[] cut = {"color 01;", "color   0;", "colors 0;", "color 0;", "color 0 ;", "standby 1;"};
+        int[] lengths = {7, 6, 5, 7, 7, 6};
+        int[] positions = {7, 6, 5, 7, 7, 0};
+        for (int i = 0; i < cut.length; i++) {
+            FlatPlan one = new FlatPlan();
+            Check.append(one, cut[i]);
+            one.truncateInput(lengths[i]);
+            due("load() of " + lengths[i] + " bytes of [" + cut[i] + "]", -3, () -> one.load());
+            due("errorPosition()", positions[i], () -> one.errorPosition());
+        }
         told("Promise 3", "`length`: 0 to the current length");
         for (int length : new int[] {0, 1, 20}) {
             FlatPlan one = new FlatPlan();
@@ -589,8 +622,7 @@ final class BoundsOfText extends Bounds {
             due("undo() after a failed load", true, () -> plan.undo());
             plan.print(5);
             List<Object> after = Snapshot.of(plan);
-            // The error stands behind the plan and undoCount().
-            int error = Snapshot.ofPlan(plan).size() + 1;
+            int error = Snapshot.errorIn(after);
             check.same("the error", after.get(error) + " " + after.get(error + 1), "1 4");
             after.set(error, before.get(error));
             after.set(error + 1, before.get(error + 1));

@@ -64,6 +64,9 @@ public final class ModelTest {
     }
 
     private void same(String call, Check.Call one, Check.Call other) {
+        if (calls >= 512) {
+            return;
+        }
         calls++;
         check.same("run " + run + ", call " + calls + ": " + call, Check.answerOf(one), Check.answerOf(other));
     }

@@ -23,22 +23,20 @@ public final class FlatPlan {
     private static final int HIGHEST_PRICE = 999;
     private static final int STORY_BASE = 100;
 
-    private final Bytes input;
-    private final Bytes description;
-    private final Plan plan;
-    private final Plan draft;
     private final Reader reader;
-    private final History history;
+    private final Bytes input;
     private final Searches searches;
+    private final Plan plan;
+    private final History history;
+    private final Bytes description;
 
     public FlatPlan() {
-        input = new Bytes(MOST_INPUT);
-        description = new Bytes(MOST_DESCRIPTION);
-        plan = new Plan();
-        draft = new Plan();
-        reader = new Reader(input, draft);
+        reader = new Reader();
+        input = reader.text;
+        searches = new Searches();
+        plan = searches.plan;
         history = new History();
-        searches = new Searches(plan);
+        description = new Bytes(MOST_DESCRIPTION);
     }
 
     // ---- the input
@@ -69,7 +67,7 @@ public final class FlatPlan {
         if (statements == NONE) {
             return TEXT_ERROR;
         }
-        plan.become(draft.now);
+        plan.become(reader.draft.now);
         history.forget();
         return statements;
     }
@@ -623,7 +621,7 @@ public final class FlatPlan {
             left += plan.left[page];
         }
         int all = QUARTERS * plan.pages;
-        return (double) (all - left) / (double) all;
+        return all > 0 ? (double) (all - left) / (double) all : 0.0;
     }
 
     public double quarterPrice() throws ArithmeticException {
@@ -1020,7 +1018,7 @@ public final class FlatPlan {
             Ads ads = now.ads;
             for (int ad = 0; ad < ads.number; ad++) {
                 int page = ads.page[ad];
-                if (page != 0) {
+                if (hasPage(page)) {
                     left[page] -= ads.size[ad];
                     adsOfGroup[ads.group[ad] * MOST_SPREADS + page / 2]++;
                 }
@@ -1028,16 +1026,17 @@ public final class FlatPlan {
             Standbys standbys = now.standbys;
             for (int standby = 0; standby < standbys.number; standby++) {
                 int page = standbys.page[standby];
-                if (page != 0) {
+                if (hasPage(page)) {
                     left[page] -= standbys.size[standby];
                 }
             }
             Stories stories = now.stories;
             for (int story = 0; story < stories.number; story++) {
                 int first = stories.page[story];
-                for (int i = 0; first != 0 && i < stories.length[story]; i++) {
-                    left[first + i] = 0;
-                    storyOn[first + i] = story;
+                int end = hasPage(first) ? Math.min(first + stories.length[story], pages + 1) : 0;
+                for (int page = first; page < end; page++) {
+                    left[page] = 0;
+                    storyOn[page] = story;
                 }
             }
         }
@@ -1332,10 +1331,10 @@ public final class FlatPlan {
         }
     }
 
-    /** The searches of a plan, with rows that they use again. */
+    /** A plan and the searches in it, with rows that they use again. */
     private static final class Searches {
-        final Plan plan;
-        final State now;
+        final Plan plan = new Plan();
+        final State now = plan.now;
         final int[] order = new int[MOST_ADS];
         final int[] onPage = new int[QUARTERS];
         final int[] adMatched = new int[MOST_PAGES + 1];
@@ -1344,11 +1343,6 @@ public final class FlatPlan {
         final int[] waiting = new int[MOST_ADS];
         final int[] colorPages = new int[MOST_FORMS];
         final int[] hasColor = new int[MOST_PAGES + 1];
-
-        Searches(Plan itsPlan) {
-            plan = itsPlan;
-            now = itsPlan.now;
-        }
 
         int placeFreeAds() {
             int number = 0;
@@ -1526,7 +1520,7 @@ public final class FlatPlan {
             Arrays.fill(reachedBy, NONE);
             waiting[0] = start;
             int end = 1;
-            for (int i = 0; i < end; i++) {
+            for (int i = 0; i < end && i < MOST_ADS; i++) {
                 for (int page = 1; page <= plan.pages; page++) {
                     if (reachedBy[page] == NONE && mayMatch(waiting[i], page)) {
                         reachedBy[page] = waiting[i];
@@ -1613,7 +1607,7 @@ public final class FlatPlan {
             Arrays.fill(hasColor, 0);
             Arrays.fill(colorPages, 0);
             for (int ad = 0; ad < now.ads.number; ad++) {
-                if (now.ads.page[ad] != 0 && now.ads.color[ad] == 1) {
+                if (plan.hasPage(now.ads.page[ad]) && now.ads.color[ad] == 1) {
                     hasColor[now.ads.page[ad]] = 1;
                 }
             }
@@ -1705,7 +1699,7 @@ public final class FlatPlan {
         }
     }
 
-    /** Reads the text of a buffer into a draft, and tells its first error. */
+    /** The input buffer, read into a draft, and the first error of the text. */
     private static final class Reader {
         static final int END = 0;
         static final int WORD = 1;
@@ -1713,19 +1707,14 @@ public final class FlatPlan {
         static final int SEMICOLON = 3;
         static final int NO_TOKEN = 4;
 
-        final Bytes text;
-        final Plan draft;
+        final Bytes text = new Bytes(MOST_INPUT);
+        final Plan draft = new Plan();
         final int[] value = new int[6];
         int at;
         int kind;
         int start;
         int code;
         int position = NONE;
-
-        Reader(Bytes itsText, Plan itsDraft) {
-            text = itsText;
-            draft = itsDraft;
-        }
 
         /** The number of statements; NONE if there is an error. */
         int readText() {
@@ -1797,9 +1786,9 @@ public final class FlatPlan {
             if (ads.number >= MOST_ADS) {
                 return fail(3);
             }
-            if (!readSize() || !readNumber(1, 0, GROUPS - 1) || !readNumber(2, 0, 1)
-                    || !readNumber(3, 0, 2) || !readNumber(4, 1, HIGHEST_PRICE)
-                    || !readNumber(5, 0, LAST_HOUR)) {
+            if (!readNumber(0, 1, 4) || !firstIsSize() || !readNumber(1, 0, GROUPS - 1)
+                    || !readNumber(2, 0, 1) || !readNumber(3, 0, 2)
+                    || !readNumber(4, 1, HIGHEST_PRICE) || !readNumber(5, 0, LAST_HOUR)) {
                 return false;
             }
             int ad = ads.add(value[0], value[1], value[4], value[5]);
@@ -1826,7 +1815,7 @@ public final class FlatPlan {
             if (draft.now.standbys.number >= MOST_STANDBYS) {
                 return fail(3);
             }
-            if (!readSize()) {
+            if (!readNumber(0, 1, 4) || !firstIsSize()) {
                 return false;
             }
             draft.now.standbys.add(value[0]);
@@ -1867,8 +1856,8 @@ public final class FlatPlan {
             return readSemicolon();
         }
 
-        private boolean readSize() {
-            return readNumber(0, 1, 4) && (isSize(value[0]) || fail(2));
+        private boolean firstIsSize() {
+            return isSize(value[0]) || fail(2);
         }
 
         /** Reads a number into a place of the row of values. */
@@ -1903,13 +1892,13 @@ public final class FlatPlan {
             start = at;
             if (at >= text.length) {
                 kind = END;
-            } else if (isLetter(at)) {
-                while (at < text.length && isLetter(at)) {
+            } else if (isLetter(text.byteAt(at))) {
+                while (at < text.length && isLetter(text.byteAt(at))) {
                     at++;
                 }
                 kind = at - start <= 8 ? WORD : NO_TOKEN;
-            } else if (isDigit(at)) {
-                while (at < text.length && isDigit(at)) {
+            } else if (isDigit(text.byteAt(at))) {
+                while (at < text.length && isDigit(text.byteAt(at))) {
                     at++;
                 }
                 kind = at - start <= 4 ? NUMBER : NO_TOKEN;
@@ -1919,12 +1908,12 @@ public final class FlatPlan {
             }
         }
 
-        private boolean isLetter(int index) {
-            return text.byteAt(index) >= 'a' && text.byteAt(index) <= 'z';
+        private static boolean isLetter(int one) {
+            return one >= 'a' && one <= 'z';
         }
 
-        private boolean isDigit(int index) {
-            return text.byteAt(index) >= '0' && text.byteAt(index) <= '9';
+        private static boolean isDigit(int one) {
+            return one >= '0' && one <= '9';
         }
 
         private boolean isWord(String word) {
